@@ -203,12 +203,12 @@ public final class FlowTimeDesk {
         return ((1 << COLUMNS) - 1) << (j * COLUMNS);
     }
 
-    /** The set of the option bits of every present job with every one of the columns that can do it. */
+    /** An option bit for every job and each of these columns that can do it; absent jobs' bits are not read. */
     private int optionsOn(int columns) {
         int options = 0;
         for (int j = 0; j < MAX_JOBS; j++) {
             for (int column = 0; column < COLUMNS; column++) {
-                if (has(present, j) && has(columns, column) && times[j * COLUMNS + column] != 0) {
+                if (has(columns, column) && times[j * COLUMNS + column] != 0) {
                     options |= optionBit(j, column);
                 }
             }
