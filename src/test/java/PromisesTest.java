@@ -33,11 +33,7 @@ public final class PromisesTest {
     }
 
     private static FlowTimeDesk desk(int machines, int... times) {
-        FlowTimeDesk x = new FlowTimeDesk(machines);
-        for (int i = 0; i < times.length; i += 3) {
-            checks.due("add in a new desk", i / 3, x.add(times[i], times[i + 1], times[i + 2]));
-        }
-        return x;
+        return checks.desk(machines, times);
     }
 
     /** How many machines a desk has, told by time() alone. */
